@@ -71,6 +71,9 @@ public final class ObjectFile {
     private static final int NAME_LENGTH = 5;
     private static final int SYMBOL_FACTS = 6;
 
+    // Two ints together stay below it.
+    private static final long ANY_ROOM = 1L << 32;
+
     private static final int NOWHERE = -1;
     private static final int ABSOLUTE = 4;
     private static final int COMMON = 5;
@@ -148,7 +151,7 @@ public final class ObjectFile {
         if (length == 0 || where < NOWHERE || where > COMMON || !isBindOrType(bind) || !isBindOrType(type)) {
             return NONE;
         }
-        if (flawOf(where, value, size, bind, Long.MAX_VALUE) != NONE) {
+        if (flawOf(where, value, size, bind, ANY_ROOM) != NONE) {
             return NONE;
         }
         if (bind != 0 && made.hasGlobal(draft, length)) {
@@ -972,7 +975,7 @@ public final class ObjectFile {
             return file.u4(table + ENTRY_BYTES * e + 4 * which);
         }
 
-        private int tell(int fault, int e, int which) {
+        private int tellEntry(int fault, int e, int which) {
             return finding.tell(fault, table + ENTRY_BYTES * e + 4 * which);
         }
 
@@ -1083,7 +1086,7 @@ public final class ObjectFile {
         private int entriesFault() {
             for (int which = 0; which < E_NUMBERS; which++) {
                 if (numberOf(0, which) != 0) {
-                    return tell(11, 0, which);
+                    return tellEntry(11, 0, which);
                 }
             }
             for (int e = 1; e < entries; e++) {
@@ -1099,18 +1102,18 @@ public final class ObjectFile {
             long sort = numberOf(e, E_SORT);
             boolean inFile = sort != SORT_NO_BYTES;
             if (inFile && (sort < 1 || sort > 4)) {
-                return tell(11, e, E_SORT);
+                return tellEntry(11, e, E_SORT);
             }
             long begin = numberOf(e, E_BEGIN);
             long bytes = numberOf(e, E_BYTES);
             if (inFile && (begin + bytes > file.length || bytes > 0 && begin < HEADER_BYTES)) {
-                return tell(12, e, E_BEGIN);
+                return tellEntry(12, e, E_BEGIN);
             }
             long alignment = numberOf(e, E_ALIGNMENT);
             if (!isAlignment(alignment) || inFile && (begin & (alignment - 1)) != 0) {
-                return tell(13, e, E_ALIGNMENT);
+                return tellEntry(13, e, E_ALIGNMENT);
             }
-            return inFile && bytes > 0 && sharesBytes(e, begin, begin + bytes) ? tell(14, e, E_BEGIN) : 0;
+            return inFile && bytes > 0 && sharesBytes(e, begin, begin + bytes) ? tellEntry(14, e, E_BEGIN) : 0;
         }
 
         /** Whether the TABLE or an entry before has some of the bytes of entry e. */
@@ -1130,12 +1133,12 @@ public final class ObjectFile {
 
         private int stringsFault(int fault, int e) {
             if (numberOf(e, E_SORT) != SORT_STRINGS) {
-                return tell(fault, e, E_SORT);
+                return tellEntry(fault, e, E_SORT);
             }
             int begin = (int) numberOf(e, E_BEGIN);
             int bytes = (int) numberOf(e, E_BYTES);
             if (bytes == 0) {
-                return tell(fault, e, E_BYTES);
+                return tellEntry(fault, e, E_BYTES);
             }
             if (file.u1(begin) != 0) {
                 return finding.tell(fault, begin);
@@ -1149,7 +1152,7 @@ public final class ObjectFile {
             for (int e = 1; e < entries && e < ENTRY_MOST; e++) {
                 int part = partNamedBy(e);
                 if (part == NONE || entryOf[part] != 0) {
-                    return tell(16, e, E_NAME);
+                    return tellEntry(16, e, E_NAME);
                 }
                 entryOf[part] = e;
                 partOf[e] = part;
@@ -1186,7 +1189,7 @@ public final class ObjectFile {
             for (int e = 1; e < entries && e < ENTRY_MOST; e++) {
                 int wrong = wrongNumber(e, partOf[e]);
                 if (wrong != NONE) {
-                    return tell(17, e, wrong);
+                    return tellEntry(17, e, wrong);
                 }
             }
             return 0;
@@ -1239,7 +1242,7 @@ public final class ObjectFile {
                     relocations += bytes / RELOCATION_BYTES;
                 }
                 if (!lengthMayBe(partOf[e], bytes) || relocations > RELOCATION_MOST) {
-                    return tell(19, e, E_BYTES);
+                    return tellEntry(19, e, E_BYTES);
                 }
             }
             return 0;
@@ -1314,7 +1317,7 @@ public final class ObjectFile {
                 }
             }
             int e = directory.entryOf[SYMTAB];
-            return directory.numberOf(e, E_INFO) != 1 + locals ? directory.tell(28, e, E_INFO) : 0;
+            return directory.numberOf(e, E_INFO) != 1 + locals ? directory.tellEntry(28, e, E_INFO) : 0;
         }
 
         private int symbolFault(int row, int first) {

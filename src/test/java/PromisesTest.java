@@ -16,6 +16,8 @@ public final class PromisesTest {
         promise09Relocation();
         promise10WriteRefuses();
         promise10WriteTooLong();
+        promise10WriteFull();
+        promise10WriteLongNames();
         promise11To15File();
         promise16And17Read();
         promise18Keep();
@@ -409,6 +411,42 @@ public final class PromisesTest {
         C.due("the FILE stays", x.size(), 8184);
         C.due("and is read", x.read(), 0);
         C.due("as it was", x.count(1), 83);
+    }
+
+    private static void promise10WriteFull() {
+        ObjectFile x = new ObjectFile();
+        for (int s = 0; s < 3; s++) {
+            bytes(x, s, 2048);
+        }
+        symbol(x, "aaaaaaaaaaaaaaaa", 4, 0, 0, 0);
+        symbol(x, "bbbbbbbbbbbbbbbb", 4, 0, 0, 0);
+        for (int k = 2; k < 98; k++) {
+            symbol(x, "c", 4, 0, 0, 0);
+        }
+        // 52 + 6144 + 99 * 16 + (1 + 17 + 17 + 2) + 52 is 7869, the TABLE from 7872 on
+        C.due("a full FILE", x.write(), 8192);
+        C.due("size", x.size(), 8192);
+        C.due("read", x.read(), 0);
+        C.due("count 1", x.count(1), 98);
+        symbol(x, "dddd", 4, 0, 0, 0);
+        C.due("more than a full FILE", x.write(), -4);
+    }
+
+    private static void promise10WriteLongNames() {
+        Model m = new Model();
+        for (int k = 0; k < 100; k++) {
+            m.made.syms.add(new Model.Sym("name-no-" + (10000000 + k), 4, k, k, k % 3, k % 3));
+        }
+        byte[] due = Model.written(m.made);
+        ObjectFile x = new ObjectFile();
+        Sample.load(x, due);
+        C.due("read", x.read(), 0);
+        x.keep();
+        x.cut(0);
+        C.due("write", x.write(), due.length);
+        for (int k = 0; k < due.length; k++) {
+            C.due("byteAt " + k, x.byteAt(k), due[k] & 255);
+        }
     }
 
     private static void promise11To15File() {

@@ -133,11 +133,7 @@ final class Pair {
     void setFile(byte[] all) {
         cut(0);
         for (int k = 0; k < all.length; k += 8) {
-            long eight = 0;
-            for (int i = 0; i < 8; i++) {
-                eight = eight << 8 | (k + i < all.length ? all[k + i] & 255 : 0);
-            }
-            feed(Math.min(8, all.length - k), eight);
+            feed(Math.min(8, all.length - k), Sample.eight(all, k));
         }
     }
 }

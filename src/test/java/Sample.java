@@ -75,10 +75,18 @@ final class Sample {
         }
     }
 
+    static long eight(byte[] all, int from) {
+        long eight = 0;
+        for (int k = from; k < from + 8; k++) {
+            eight = eight << 8 | (k < all.length ? all[k] & 255 : 0);
+        }
+        return eight;
+    }
+
     static void load(ObjectFile x, byte[] all) {
         x.cut(0);
-        for (byte b : all) {
-            x.feed(1, (long) b << 56);
+        for (int k = 0; k < all.length; k += 8) {
+            x.feed(Math.min(8, all.length - k), eight(all, k));
         }
     }
 }

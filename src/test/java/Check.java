@@ -1,16 +1,23 @@
-/** Counts answers and prints those that are not as due. */
+/** Counts answers and prints those that are not as due, with the document's sentence that asks for them. */
 final class Check {
+    private static final int PRINTED_MOST = 50;
+
+    private String sentence = "";
+    private int sentences;
     private int right;
     private int wrong;
+
+    /** The sentence, in the document's words, that the answers from here on are due to. */
+    void sentence(String text) {
+        sentence = text;
+        sentences++;
+    }
 
     void due(String call, long got, long want) {
         if (got == want) {
             right++;
-            return;
-        }
-        wrong++;
-        if (wrong <= 50) {
-            System.out.println(call + " answered " + got + ", due is " + want);
+        } else {
+            tell(call + " answered " + got + ", due is " + want);
         }
     }
 
@@ -25,11 +32,15 @@ final class Check {
     void that(boolean holds, String what) {
         if (holds) {
             right++;
-            return;
+        } else {
+            tell("does not hold: " + what);
         }
+    }
+
+    private void tell(String what) {
         wrong++;
-        if (wrong <= 50) {
-            System.out.println("does not hold: " + what);
+        if (wrong <= PRINTED_MOST) {
+            System.out.println((sentence.isEmpty() ? "" : "[" + sentence + "] ") + what);
         }
     }
 
@@ -38,7 +49,7 @@ final class Check {
     }
 
     void end() {
-        System.out.println(right + " answers as due, " + wrong + " not");
+        System.out.println(sentences + " sentences, " + right + " answers as due, " + wrong + " not");
         if (wrong != 0) {
             System.exit(1);
         }

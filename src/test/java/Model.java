@@ -85,6 +85,16 @@ final class Model {
     String draft = "";
     int place = -1;
 
+    Model copy() {
+        Model c = new Model();
+        c.made = made.copy();
+        c.read = read.copy();
+        c.file = file.clone();
+        c.draft = draft;
+        c.place = place;
+        return c;
+    }
+
     void clear() {
         made = new Obj();
         draft = "";

@@ -39,13 +39,14 @@ public final class ModelTest {
         return text.toString();
     }
 
+    /** An object of some 60 calls, and now and then one that has much of one thing. */
     private static void make(Pair p, Random r) {
-        int scale = r.nextInt(8) == 0 ? 200 : 12;
+        int much = r.nextInt(24);
         for (int s = 0; s < 3; s++) {
-            int n = r.nextInt(scale);
+            int n = much == s ? 150 + r.nextInt(107) : r.nextInt(12);
             for (int k = 0; k < n; k++) {
                 long eight = r.nextLong() | (r.nextInt(2) == 0 ? 0x0303030303030303L : 0);
-                p.put(s, 1 + r.nextInt(8), eight);
+                p.put(s, much == s ? 8 : 1 + r.nextInt(8), eight);
             }
             if (r.nextBoolean()) {
                 p.align(s, r.nextInt(7));
@@ -54,16 +55,16 @@ public final class ModelTest {
         p.bss(r.nextInt(4097));
         p.align(3, r.nextInt(7));
         int at = 0;
-        for (int k = r.nextInt(scale); k > 0 && at < p.m.made.bytes[0].length; k--) {
+        for (int k = much == 3 ? 100 : r.nextInt(12); k > 0 && at < p.m.made.bytes[0].length; k--) {
             p.start(at);
             at += 2 + 2 * r.nextInt(3);
         }
-        int symbols = r.nextInt(10) == 0 ? 101 : r.nextInt(8);
-        for (int k = 0; k < symbols; k++) {
+        int symbols = much == 4 ? 60 : r.nextInt(8);
+        for (int k = 0; k < symbols && p.left() > 100; k++) {
             goodSymbol(p, r);
         }
-        int relocations = r.nextInt(10) == 0 ? r.nextInt(301) : r.nextInt(8);
-        for (int k = 0; k < relocations; k++) {
+        int relocations = much == 5 ? 301 : r.nextInt(8);
+        for (int k = 0; k < relocations && p.left() > 80; k++) {
             goodRelocation(p, r);
         }
     }
@@ -98,53 +99,46 @@ public final class ModelTest {
         }
     }
 
-    private static void readAndCompare(Pair p) {
+    private static int readAndCount(Pair p) {
         int fault = p.read();
         if (fault >= 0 && fault < SEEN.length) {
             SEEN[fault]++;
         }
-        p.sameRead();
+        return fault;
     }
 
     private static void spoiledFiles(Random r) {
-        Pair p = new Pair(CHECK, r);
-        make(p, r);
-        int n = p.write();
-        p.sameFile();
+        Pair base = new Pair(CHECK);
+        make(base, r);
+        int n = base.write();
+        base.sameFile();
         if (n < 0) {
             return;
         }
-        readAndCompare(p);
-        byte[] sound = p.m.file;
-        for (int k = 0; k < 120; k++) {
-            int times = 1 + (r.nextInt(3) == 0 ? r.nextInt(3) : 0);
-            for (int i = 0; i < times; i++) {
-                spoilSome(p, r);
-            }
-            int fault = p.read();
-            SEEN[fault]++;
-            if (fault == 0) {
-                p.sameRead();
-                if (r.nextInt(4) == 0) {
-                    p.keep();
-                    p.write();
-                    p.sameFile();
-                    readAndCompare(p);
-                }
-            }
-            restore(p, sound);
+        Pair sound = base.copy();
+        readAndCount(sound);
+        sound.sameRead();
+        for (int k = 0; k < 100; k++) {
+            spoilAndRead(k % 2 == 0 ? base : sound, r);
         }
     }
 
-    private static void restore(Pair p, byte[] sound) {
-        if (p.m.file.length != sound.length) {
-            p.setFile(sound);
-            return;
+    private static void spoilAndRead(Pair base, Random r) {
+        Pair p = base.copy();
+        int times = 1 + (r.nextInt(3) == 0 ? r.nextInt(3) : 0);
+        for (int i = 0; i < times && p.left() > 12; i++) {
+            spoilSome(p, r);
         }
-        byte[] now = p.m.file;
-        for (int k = 0; k < sound.length; k++) {
-            if (now[k] != sound[k]) {
-                p.spoil(k, sound[k]);
+        int fault = readAndCount(p);
+        if (fault == 0 || r.nextInt(20) == 0) {
+            p.sameRead();
+        }
+        if (fault == 0 && r.nextInt(4) == 0) {
+            p.keep();
+            if (p.write() > 0) {
+                p.sameFile();
+                readAndCount(p);
+                p.sameRead();
             }
         }
     }
@@ -195,24 +189,24 @@ public final class ModelTest {
 
     /** Files that the program would not write so: parts and entries in any order, some missing, gaps between. */
     private static void shuffledFiles(Random r) {
-        Pair p = new Pair(CHECK, r);
+        Pair p = new Pair(CHECK);
         make(p, r);
-        if (p.write() < 0 || p.m.file.length > 7000) {
+        if (p.write() < 0) {
             return;
         }
         byte[] f = p.m.file;
-        for (int k = 0; k < 12; k++) {
+        for (int k = 0; k < 6; k++) {
             byte[] g = shuffled(p, f, r);
-            if (g.length > 8192) {
+            if (g.length > 3400) {
                 continue;
             }
-            p.setFile(g);
-            readAndCompare(p);
+            Pair q = new Pair(CHECK);
+            q.load(g);
             for (int i = 0; i < 12; i++) {
-                spoilSome(p, r);
-                SEEN[p.read()]++;
-                restore(p, g);
+                spoilAndRead(q, r);
             }
+            readAndCount(q);
+            q.sameRead();
         }
     }
 
@@ -290,8 +284,8 @@ public final class ModelTest {
 
     /** Calls with arguments at and beyond all edges. */
     private static void anyCalls(Random r) {
-        Pair p = new Pair(CHECK, r);
-        for (int k = 0; k < 512; k++) {
+        Pair p = new Pair(CHECK);
+        while (p.left() > 30) {
             switch (r.nextInt(22)) {
                 case 0 -> {
                     if (r.nextInt(20) == 0) {
@@ -323,28 +317,16 @@ public final class ModelTest {
                         p.keep();
                     }
                 }
-                default -> ask(p, r);
+                default -> p.askBetween(odd(r), odd(r));
             }
         }
         p.sameFile();
         p.sameRead();
     }
 
-    private static void ask(Pair p, Random r) {
-        int a = odd(r);
-        int b = odd(r);
-        CHECK.due("byteAt " + a, p.x.byteAt(a), p.m.byteAt(a));
-        CHECK.due("section " + a + " " + b, p.x.section(a, b), p.m.section(a, b));
-        CHECK.due("at " + a + " " + b, p.x.at(a, b), p.m.at(a, b));
-        CHECK.due("count " + a, p.x.count(a), p.m.count(a));
-        CHECK.due("startAt " + a, p.x.startAt(a), p.m.startAt(a));
-        CHECK.due("symbolAt " + a + " " + b, p.x.symbolAt(a, b), p.m.symbolAt(a, b));
-        CHECK.due("relocationAt " + a + " " + b, p.x.relocationAt(a, b), p.m.relocationAt(a, b));
-    }
-
     /** A sound header before bytes of any kind. */
     private static void wildFiles(Random r) {
-        Pair p = new Pair(CHECK, r);
+        Pair p = new Pair(CHECK);
         byte[] g = new byte[r.nextInt(800)];
         for (int k = 0; k < g.length; k++) {
             g[k] = (byte) (r.nextInt(3) == 0 ? r.nextInt() : r.nextInt(4));
@@ -356,7 +338,8 @@ public final class ModelTest {
             g[33] = 0;
             Arrays.fill(g, g[32] & 255, (g[32] & 255) + 40, (byte) 0);
         }
-        p.setFile(g);
-        readAndCompare(p);
+        p.load(g);
+        readAndCount(p);
+        p.sameRead();
     }
 }

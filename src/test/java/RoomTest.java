@@ -24,7 +24,7 @@ public final class RoomTest {
     }
 
     private static void calls(ObjectFile x) {
-        for (int k = 0; k < 64; k++) {
+        for (int k = 0; k < 50; k++) {
             x.put(k % 3, 8, 0);
             x.start(2 * k);
             x.letter(65 + k % 26);

@@ -23,8 +23,7 @@ final class Sample {
     private Sample() {
     }
 
-    static ObjectFile made() {
-        ObjectFile x = new ObjectFile();
+    static void make(Use x) {
         x.put(0, 6, 0x1300000001000000L);
         x.align(0, 2);
         x.start(0);
@@ -33,15 +32,11 @@ final class Sample {
         x.align(1, 3);
         x.bss(5);
         x.align(3, 4);
-        PromisesTest.name(x, "main");
-        x.symbol(0, 0, 6, 1, 2);
-        PromisesTest.name(x, "ain");
-        x.symbol(1, 0, 2, 0, 1);
-        PromisesTest.name(x, "n");
-        x.symbol(-1, 0, 0, 2, 0);
+        x.letters("main").symbol(0, 0, 6, 1, 2);
+        x.letters("ain").symbol(1, 0, 2, 0, 1);
+        x.letters("n").symbol(-1, 0, 0, 2, 0);
         x.relocation(0, 0, 17, 2, 7);
         x.relocation(0, 4, 44, 1, -2);
-        return x;
     }
 
     static byte[] file() {
@@ -81,12 +76,5 @@ final class Sample {
             eight = eight << 8 | (k < all.length ? all[k] & 255 : 0);
         }
         return eight;
-    }
-
-    static void load(ObjectFile x, byte[] all) {
-        x.cut(0);
-        for (int k = 0; k < all.length; k += 8) {
-            x.feed(Math.min(8, all.length - k), eight(all, k));
-        }
     }
 }

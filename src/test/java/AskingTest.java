@@ -9,6 +9,7 @@ public final class AskingTest {
         sectionBytesAndAlignment();
         sectionNone();
         atAll();
+        atOneByte();
         atNone();
         countAll();
         countNone();
@@ -87,6 +88,18 @@ public final class AskingTest {
             for (int other = 0; other < 3; other++) {
                 C.due("at " + other + " 128", x.at(other, 128), other == s ? 128 : -1);
             }
+        }
+    }
+
+    private static void atOneByte() {
+        C.sentence("at: Byte k of section s of the READ object (which has one alone)");
+        for (int s = 0; s < 3; s++) {
+            Use x = new Use();
+            x.put(s, 1, 0xAB00000000000000L);
+            read(x);
+            C.due("at " + s + " 0", x.at(s, 0), 0xAB);
+            C.due("at " + s + " 1", x.at(s, 1), -1);
+            C.due("section " + s, x.section(s, 0), 1);
         }
     }
 

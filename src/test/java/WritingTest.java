@@ -29,6 +29,7 @@ public final class WritingTest {
         entryInfoOfSymtab();
         stringsBeginWithZero();
         stringsAtTheLeastPlace();
+        stringsOfTheMostNames();
         stringsAsTheyAreWritten();
         stringsOfEntries();
         symbolNumbers();
@@ -437,13 +438,42 @@ public final class WritingTest {
         // within a row of the same characters
         namesAt(new String[] {"aaa", "aa", "a", "aaaa"}, new int[] {1, 2, 3, 5}, 10);
         namesAt(new String[] {"0123456789abcdef", "f", "123456789abcdef", "0123456789abcdef"}, new int[] {1, 16, 2, 1}, 18);
+        namesAt(new String[] {"0123456789abcdef", "0123456789abcdef", "123456789abcdef", "x"}, new int[] {1, 1, 2, 18}, 20);
         Use x = new Use();
+        // what a longer name left behind is not looked at
+        x.symbol("qqqqqqqq", 4, 0, 0, 0);
+        x.symbol("rrrrrrrr", 4, 0, 0, 0);
+        x.write();
+        x.clear();
         x.symbol("ab", 4, 0, 0, 0);
         x.symbol("b", 4, 0, 0, 0);
         x.symbol("c", 4, 0, 0, 0);
         written(x);
         // .strtab from 116 on, .shstrtab behind it
         bytesFrom(x, 116, 0, 'a', 'b', 0, 'c', 0, 0, '.');
+    }
+
+    /** 100 names of 16 characters are too many letters, so that they are fed as a file, read and kept. */
+    private static void stringsOfTheMostNames() {
+        C.sentence("otherwise it is put behind, with a 0 (for 100 names of 16 characters)");
+        Model.Obj o = new Model.Obj();
+        for (int k = 0; k < 100; k++) {
+            o.syms.add(new Model.Sym("name-no-" + (10000000 + k), 4, k, k, k % 3, k % 3));
+        }
+        byte[] file = Model.written(o);
+        Use.sameFile(C, x -> {
+            x.load(file);
+            C.due("read", x.read(), 0);
+            x.keep();
+            x.cut(0);
+            C.due("write", x.write(), file.length);
+        }, file);
+        Use x = new Use().load(file);
+        x.read();
+        x.keep();
+        x.write();
+        C.due("bytes of .strtab", x.entry(6, BYTES), 1 + 100 * 17);
+        C.due("the last name's place", x.u4(52 + 16 * 100), 1 + 99 * 17);
     }
 
     private static void stringsAsTheyAreWritten() {

@@ -157,6 +157,11 @@ public final class EntryFaultsTest {
         }
         entry(BSS, BYTES, 4096).sound(".bss goes beyond n");
         entry(BSS, BYTES, MOST).due(".bss goes far beyond n", 19, spot(BSS, BYTES));
+        // the sort tells, not the name
+        Spoiled far = entry(TEXT, SORT, 8).entry(TEXT, BEGIN, MOST).entry(TEXT, BYTES, MOST);
+        far.due(".text of sort 8 far away", 17, spot(TEXT, SORT));
+        entry(BSS, SORT, 1).entry(BSS, BYTES, 999).due(".bss of sort 1 beyond n", 12, spot(BSS, BEGIN));
+        entry(BSS, SORT, 1).entry(BSS, ALIGNMENT, 1).due(".bss of sort 1 has .starts' bytes", 14, spot(STARTS, BEGIN));
     }
 
     private static void fault13NoPowerOfTwo() {

@@ -27,6 +27,7 @@ public final class FileTest {
         spoilRefused();
         readAnswers();
         readTakesWhatTheFileTells();
+        writtenIsReadAsItWas();
         readWithAFaultItStays();
         readLeavesTheRest();
         placeOfTheLatest();
@@ -549,6 +550,78 @@ public final class FileTest {
             C.due("section " + what, y.section(what, 0), 0);
             C.due("section " + what, y.section(what, 1), 1);
         }
+    }
+
+    private static final int[] LENGTHS = {9, 10, 11, 12};
+    private static final String[] NAMES = {"x.1", "~", "0123456789abcdef", "!", "x.1"};
+    private static final int[][] SYMBOLS = {{4, LEAST, 3, 0, 1}, {3, 12, 0, 0, 2}, {0, 1, 8, 1, 0}, {5, 16, 4000, 1, 1}, {-1, 0, 0, 2, 2}};
+    private static final int[][] RELOCATIONS = {{0, 0, 51, -1, -9}, {0, 1, 19, 4, 8}, {0, 3, 43, -1, 6}, {1, 6, 39, 1, 2}, {2, 10, 37, 0, MOST}};
+
+    private static void makeSomeOfAll(Use x) {
+        for (int s = 0; s < 3; s++) {
+            for (int k = 0; k < LENGTHS[s]; k++) {
+                x.put(s, 1, (long) (16 * s + k) << 56);
+            }
+        }
+        x.bss(12);
+        for (int s = 0; s < 4; s++) {
+            x.align(s, 6 - s);
+        }
+        x.start(2);
+        x.start(4);
+        x.start(8);
+        for (int k = 0; k < SYMBOLS.length; k++) {
+            int[] y = SYMBOLS[k];
+            x.letters(NAMES[k]).symbol(y[0], y[1], y[2], y[3], y[4]);
+        }
+        for (int[] r : RELOCATIONS) {
+            x.relocation(r[0], r[1], r[2], r[3], r[4]);
+        }
+    }
+
+    private static void sectionsAndStartsAsTheyWere(Use x) {
+        for (int s = 0; s < 4; s++) {
+            C.due("section " + s + " 0", x.section(s, 0), LENGTHS[s]);
+            C.due("section " + s + " 1", x.section(s, 1), 64 >> s);
+            for (int k = 0; k < LENGTHS[s]; k++) {
+                C.due("at " + s + " " + k, x.at(s, k), s == 3 ? -1 : 16 * s + k);
+            }
+        }
+        C.due("startAt 0", x.startAt(0), 2);
+        C.due("startAt 1", x.startAt(1), 4);
+        C.due("startAt 2", x.startAt(2), 8);
+    }
+
+    private static void symbolsAndRelocationsAsTheyWere(Use x) {
+        for (int k = 0; k < SYMBOLS.length; k++) {
+            for (int what = 0; what < 5; what++) {
+                C.due("symbolAt " + k + " " + what, x.symbolAt(k, what), SYMBOLS[k][what]);
+            }
+            C.due("how long", x.symbolAt(k, 5), NAMES[k].length());
+            for (int i = 0; i < NAMES[k].length(); i++) {
+                C.due("character " + i, x.symbolAt(k, 6 + i), NAMES[k].charAt(i));
+            }
+        }
+        for (int k = 0; k < RELOCATIONS.length; k++) {
+            for (int what = 0; what < 5; what++) {
+                C.due("relocationAt " + k + " " + what, x.relocationAt(k, what), RELOCATIONS[k][what]);
+            }
+        }
+    }
+
+    private static void writtenIsReadAsItWas() {
+        C.sentence("what was written is read as it was");
+        Use x = Use.after(FileTest::makeSomeOfAll);
+        int n = x.write();
+        C.due("read", x.read(), 0);
+        int[] counts = {3, SYMBOLS.length, RELOCATIONS.length, 3};
+        for (int what = 0; what < 4; what++) {
+            C.due("count " + what, x.count(what), counts[what]);
+        }
+        sectionsAndStartsAsTheyWere(x);
+        symbolsAndRelocationsAsTheyWere(x);
+        x.keep();
+        C.due("write of what was read", x.write(), n);
     }
 
     private static void readWithAFaultItStays() {

@@ -52,6 +52,7 @@ public final class PartFaultsTest {
         fault33Above();
         fault33InText();
         fault34();
+        noMoreThanTheEntriesTell();
         C.end();
     }
 
@@ -564,5 +565,27 @@ public final class PartFaultsTest {
         of(object(4, 0, 0, 0)).set(36, 4, 1).due("1 and no START", 34, 36);
         of(object(0, 0, 0, 0)).set(36, 4, 1).due("1 and no .text", 34, 36);
         set(36, 4, 0).set(STARTS + 2, 2, 1).due("33 before 34", 33, STARTS + 2);
+    }
+
+    private static void noMoreThanTheEntriesTell() {
+        C.sentence("Without a FAULT the READ object is what the file tells (and what stands behind a part is not of it)");
+        // the third symbol, the second relocation and the second START stand in the file, but no entry has them
+        Use x = new Use().load(sample().entry(7, 5, 48).entry(6, 5, 0).row());
+        C.due("read of two symbols", x.read(), 0);
+        C.due("count 1", x.count(1), 2);
+        C.due("symbolAt 2", x.symbolAt(2, 5), -1);
+        x.load(sample().entry(6, 5, 12).row());
+        C.due("read of one relocation", x.read(), 0);
+        C.due("count 2", x.count(2), 1);
+        C.due("relocationAt 1", x.relocationAt(1, 2), -1);
+        x.load(set(52, 1, 0).entry(5, 5, 2).row());
+        C.due("read of one START", x.read(), 0);
+        C.due("count 0", x.count(0), 1);
+        C.due("startAt 1", x.startAt(1), -1);
+        C.due("count 3", x.count(3), 1);
+        x.load(set(54, 1, 7).entry(1, 5, 58 - 52 + 2).row());
+        C.due("read of two bytes more", x.read(), 0);
+        C.due("section 0 0", x.section(0, 0), 8);
+        C.due("at 0 7", x.at(0, 7), 0);
     }
 }
